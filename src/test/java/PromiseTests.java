@@ -36,6 +36,7 @@ final class PromiseTests {
         checks.test("12: crash", this::crash);
         checks.test("13: start goes through the log", this::start);
         checks.test("13: start behind a tail that is past the checkpoint", this::startFromTail);
+        checks.test("13: start goes through nothing below the tail", this::startNotBelowTail);
         checks.test("13: start drops what is below the tail", this::startDropsBelowTail);
         checks.test("14: isUp", this::isUp);
         checks.test("15 to 17: head, tail, written", this::positions);
@@ -434,9 +435,9 @@ final class PromiseTests {
                 checks.wrong("power failed at write " + round);
             }
         }
-        Keysapart long1 = new Keysapart();
-        long1.failAfter(Keysapart.NONE);
-        checks.due("checkpoint with no failure", long1.checkpoint(), true);
+        Keysapart unfailing = new Keysapart();
+        unfailing.failAfter(Keysapart.NONE);
+        checks.due("checkpoint with no failure", unfailing.checkpoint(), true);
     }
 
     private void failAfterChosenAnew() {
@@ -528,6 +529,21 @@ final class PromiseTests {
         checks.due("positionOf(1)", x.positionOf(1), 5);
         checks.due("positionOf(3)", x.positionOf(3), 7);
         checks.due("sum", x.sum(0, 63), 60);
+    }
+
+    /** The log goes round here: the entries from 96 on could be taken for those from 0 on. */
+    private void startNotBelowTail() {
+        Keysapart x = withPuts(5, 9);
+        x.collect(8);
+        for (int k = 9; k < 104; k++) {
+            x.put(6, k);
+        }
+        checks.due("wouldHave", x.wouldHave(), 1);
+        x.crash();
+        checks.due("start", x.start(), 1);
+        checks.due("positionOf(5)", x.positionOf(5), 8);
+        checks.due("get(5)", x.get(5), 8);
+        checks.due("get(6)", x.get(6), Keysapart.NONE);
     }
 
     private void startDropsBelowTail() {
