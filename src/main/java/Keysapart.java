@@ -410,7 +410,7 @@ public final class Keysapart {
 
     /**
      * The entries of the segments in use. These are at most 12 in a row, so that no two positions in
-     * them differ by 96 or more and each has a slot of its own at its rest.
+     * them differ by 96 or more, and the slot at a position's remainder by 96 is its own.
      */
     private static final class Log {
         private final int[] keys;

@@ -8,6 +8,9 @@ public final class AllTests {
         new FaceTests(checks).run();
         new PromiseTests(checks).run();
         new RefusalTests(checks).run();
+        new KeysEdgeTests(checks).run();
+        new KeptEdgeTests(checks).run();
+        new LogEdgeTests(checks).run();
         new ModelTests(checks).run();
         checks.report();
         if (checks.failed() != 0) {

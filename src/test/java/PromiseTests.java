@@ -1,11 +1,10 @@
 /** For each promise: ordinary inputs and the edges that the document names. */
-final class PromiseTests {
-    private final Checks checks;
-
+final class PromiseTests extends StoreTests {
     PromiseTests(Checks checks) {
-        this.checks = checks;
+        super(checks);
     }
 
+    @Override
     void run() {
         checks.test("1: a new object is empty and up", this::newObject);
         checks.test("1: power does not fail in a new object", this::newObjectHasPower);
@@ -49,41 +48,17 @@ final class PromiseTests {
         checks.test("23: wouldHave changes nothing", this::wouldHaveChangesNothing);
     }
 
-    /** Puts the key with the values 0, 1, 2 and so on. */
-    private static Keysapart withPuts(int key, int count) {
-        Keysapart x = new Keysapart();
-        for (int value = 0; value < count; value++) {
-            x.put(key, value);
-        }
-        return x;
-    }
-
-    /** Puts the keys 0, 1, 2 and so on, each with its tenfold as value. */
-    private static Keysapart withKeys(int count) {
-        Keysapart x = new Keysapart();
-        for (int key = 0; key < count; key++) {
-            x.put(key, 10 * key);
-        }
-        return x;
-    }
-
-    private void dueLog(Keysapart x, int tail, int written, int head) {
-        checks.due("tail", x.tail(), tail);
-        checks.due("written", x.written(), written);
-        checks.due("head", x.head(), head);
-    }
-
     private void newObject() {
         Keysapart x = new Keysapart();
         checks.due("isUp", x.isUp(), true);
         dueLog(x, 0, 0, 0);
         checks.due("checkpointAt", x.checkpointAt(), 0);
-        checks.due("next(0)", x.next(0), Keysapart.NONE);
-        checks.due("positionOf(0)", x.positionOf(0), Keysapart.NONE);
-        checks.due("positionOf(63)", x.positionOf(63), Keysapart.NONE);
+        checks.due("next(0)", x.next(0), NONE);
+        checks.due("positionOf(0)", x.positionOf(0), NONE);
+        checks.due("positionOf(63)", x.positionOf(63), NONE);
         checks.due("live", x.live(), 0);
         checks.due("segments", x.segments(), 0);
-        checks.due("toFree", x.toFree(), Keysapart.NONE);
+        checks.due("toFree", x.toFree(), NONE);
         checks.due("wouldHave", x.wouldHave(), 0);
         checks.due("sum(0, 63)", x.sum(0, 63), 0);
         checks.due("fetches(0, 63)", x.fetches(0, 63), 0);
@@ -145,8 +120,8 @@ final class PromiseTests {
         Keysapart x = withKeys(4);
         x.put(2, 77);
         checks.due("delete(2)", x.delete(2), 77);
-        checks.due("get(2)", x.get(2), Keysapart.NONE);
-        checks.due("positionOf(2)", x.positionOf(2), Keysapart.NONE);
+        checks.due("get(2)", x.get(2), NONE);
+        checks.due("positionOf(2)", x.positionOf(2), NONE);
         checks.due("head", x.head(), 6);
         checks.due("live", x.live(), 3);
         checks.throwsDue("delete(2) again", Checks.STATE, () -> x.delete(2));
@@ -169,10 +144,10 @@ final class PromiseTests {
 
     private void get() {
         Keysapart x = new Keysapart();
-        checks.due("get(9)", x.get(9), Keysapart.NONE);
+        checks.due("get(9)", x.get(9), NONE);
         x.put(9, 0);
         checks.due("get(9) of 0", x.get(9), 0);
-        checks.due("get(8)", x.get(8), Keysapart.NONE);
+        checks.due("get(8)", x.get(8), NONE);
         x.put(9, 4321);
         checks.due("get(9) unwritten", x.get(9), 4321);
         x.synchronize();
@@ -193,8 +168,8 @@ final class PromiseTests {
         checks.due("next(41)", x.next(41), 63);
         checks.due("next(63)", x.next(63), 63);
         x.delete(63);
-        checks.due("next(41) then", x.next(41), Keysapart.NONE);
-        checks.due("next(63) then", x.next(63), Keysapart.NONE);
+        checks.due("next(41) then", x.next(41), NONE);
+        checks.due("next(63) then", x.next(63), NONE);
     }
 
     private void sum() {
@@ -268,7 +243,7 @@ final class PromiseTests {
             checks.due("synchronize", x.synchronize(), false);
             dueLog(x, 0, ahead, ahead);
             checks.due("start", x.start(), ahead);
-            checks.due("next", x.next(0), ahead == 0 ? Keysapart.NONE : 0);
+            checks.due("next", x.next(0), ahead == 0 ? NONE : 0);
             checks.due("sum", x.sum(0, 63), 5 * ahead * (ahead - 1));
         }
         Keysapart x = withKeys(5);
@@ -292,7 +267,7 @@ final class PromiseTests {
         x.crash();
         checks.due("start", x.start(), 2);
         checks.due("get(1)", x.get(1), 11);
-        checks.due("get(2)", x.get(2), Keysapart.NONE);
+        checks.due("get(2)", x.get(2), NONE);
     }
 
     private void checkpointWrites() {
@@ -341,7 +316,7 @@ final class PromiseTests {
         checks.due("get(1)", x.get(1), 11);
         checks.due("collect of the mark", x.collect(1), true);
         dueLog(x, 4, 6, 6);
-        checks.due("get(2)", x.get(2), Keysapart.NONE);
+        checks.due("get(2)", x.get(2), NONE);
         checks.due("get(3)", x.get(3), 30);
         checks.due("checkpointAt", x.checkpointAt(), 0);
     }
@@ -378,7 +353,7 @@ final class PromiseTests {
         checks.due("collect(6)", x.collect(6), true);
         dueLog(x, 6, 6, 6);
         checks.due("segments", x.segments(), 0);
-        checks.due("toFree", x.toFree(), Keysapart.NONE);
+        checks.due("toFree", x.toFree(), NONE);
         checks.throwsDue("collect(1)", Checks.STATE, () -> x.collect(1));
         Keysapart full = withPuts(5, 96);
         checks.throwsDue("collect(96) with one live", Checks.STATE, () -> full.collect(96));
@@ -396,8 +371,8 @@ final class PromiseTests {
             checks.due("isUp", x.isUp(), false);
             dueLog(x, 0, ahead, ahead);
             checks.due("start", x.start(), Math.min(ahead, 4));
-            checks.due("positionOf(0)", x.positionOf(0), ahead == 0 ? Keysapart.NONE : ahead >= 5 ? 4 : 0);
-            checks.due("positionOf(1)", x.positionOf(1), ahead <= 1 ? Keysapart.NONE : ahead == 6 ? 5 : 1);
+            checks.due("positionOf(0)", x.positionOf(0), ahead == 0 ? NONE : ahead >= 5 ? 4 : 0);
+            checks.due("positionOf(1)", x.positionOf(1), ahead <= 1 ? NONE : ahead == 6 ? 5 : 1);
         }
     }
 
@@ -412,7 +387,7 @@ final class PromiseTests {
         checks.due("isUp", x.isUp(), true);
         dueLog(x, 0, 0, 86);
         checks.due("positionOf(0)", x.positionOf(0), 0);
-        x.failAfter(Keysapart.NONE);
+        x.failAfter(NONE);
         checks.due("collect(10)", x.collect(10), true);
         dueLog(x, 10, 96, 96);
         checks.due("sum(0, 9)", x.sum(0, 9), 450);
@@ -436,7 +411,7 @@ final class PromiseTests {
             }
         }
         Keysapart unfailing = new Keysapart();
-        unfailing.failAfter(Keysapart.NONE);
+        unfailing.failAfter(NONE);
         checks.due("checkpoint with no failure", unfailing.checkpoint(), true);
     }
 
@@ -445,7 +420,7 @@ final class PromiseTests {
         x.failAfter(0);
         x.failAfter(2);
         checks.due("synchronize", x.synchronize(), true);
-        x.failAfter(Keysapart.NONE);
+        x.failAfter(NONE);
         checks.due("checkpoint", x.checkpoint(), true);
         x.failAfter(1);
         checks.due("checkpoint with one ahead", x.checkpoint(), true);
@@ -483,7 +458,7 @@ final class PromiseTests {
         dueLog(x, 0, 3, 3);
         x.start();
         checks.due("get(0)", x.get(0), 0);
-        checks.due("get(7)", x.get(7), Keysapart.NONE);
+        checks.due("get(7)", x.get(7), NONE);
         checks.due("crash with nothing lost", x.crash(), 0);
         x.start();
         checks.due("put", x.put(8, 8), 3);
@@ -509,10 +484,10 @@ final class PromiseTests {
         checks.due("checkpointAt", x.checkpointAt(), 4);
         checks.due("positionOf(0)", x.positionOf(0), 0);
         checks.due("positionOf(1)", x.positionOf(1), 4);
-        checks.due("get(2)", x.get(2), Keysapart.NONE);
+        checks.due("get(2)", x.get(2), NONE);
         checks.due("get(3)", x.get(3), 33);
-        checks.due("get(9)", x.get(9), Keysapart.NONE);
-        checks.due("get(5)", x.get(5), Keysapart.NONE);
+        checks.due("get(9)", x.get(9), NONE);
+        checks.due("get(5)", x.get(5), NONE);
     }
 
     private void startFromTail() {
@@ -525,7 +500,7 @@ final class PromiseTests {
         dueLog(x, 5, 8, 8);
         x.crash();
         checks.due("start", x.start(), 3);
-        checks.due("get(0)", x.get(0), Keysapart.NONE);
+        checks.due("get(0)", x.get(0), NONE);
         checks.due("positionOf(1)", x.positionOf(1), 5);
         checks.due("positionOf(3)", x.positionOf(3), 7);
         checks.due("sum", x.sum(0, 63), 60);
@@ -543,7 +518,7 @@ final class PromiseTests {
         checks.due("start", x.start(), 1);
         checks.due("positionOf(5)", x.positionOf(5), 8);
         checks.due("get(5)", x.get(5), 8);
-        checks.due("get(6)", x.get(6), Keysapart.NONE);
+        checks.due("get(6)", x.get(6), NONE);
     }
 
     private void startDropsBelowTail() {
@@ -556,7 +531,7 @@ final class PromiseTests {
         x.collect(1);
         x.crash();
         checks.due("start", x.start(), 2);
-        checks.due("get(0)", x.get(0), Keysapart.NONE);
+        checks.due("get(0)", x.get(0), NONE);
         checks.due("get(1)", x.get(1), 11);
         checks.due("positionOf(2), at the tail", x.positionOf(2), 2);
         x.delete(1);
@@ -616,11 +591,11 @@ final class PromiseTests {
         Keysapart x = withKeys(3);
         checks.due("positionOf(0)", x.positionOf(0), 0);
         checks.due("positionOf(2)", x.positionOf(2), 2);
-        checks.due("positionOf(3)", x.positionOf(3), Keysapart.NONE);
+        checks.due("positionOf(3)", x.positionOf(3), NONE);
         x.put(0, 5);
         checks.due("positionOf(0) then", x.positionOf(0), 3);
         x.delete(0);
-        checks.due("positionOf(0) deleted", x.positionOf(0), Keysapart.NONE);
+        checks.due("positionOf(0) deleted", x.positionOf(0), NONE);
     }
 
     private void segments() {
@@ -661,7 +636,7 @@ final class PromiseTests {
 
     private void toFree() {
         Keysapart x = withPuts(1, 7);
-        checks.due("toFree with 7", x.toFree(), Keysapart.NONE);
+        checks.due("toFree with 7", x.toFree(), NONE);
         x.put(1, 1);
         checks.due("toFree with 8", x.toFree(), 8);
         checks.due("segments", x.segments(), 1);
@@ -675,7 +650,7 @@ final class PromiseTests {
         }
         checks.due("toFree from 8 to 16", x.toFree(), 8);
         x.crash();
-        checks.due("toFree when down", x.toFree(), Keysapart.NONE);
+        checks.due("toFree when down", x.toFree(), NONE);
         x.start();
         for (int k = 0; k < 7; k++) {
             x.put(1, k);
@@ -712,7 +687,7 @@ final class PromiseTests {
         checks.due("isUp", x.isUp(), true);
         dueLog(x, 0, 3, 5);
         checks.due("get(0)", x.get(0), 5);
-        checks.due("get(1)", x.get(1), Keysapart.NONE);
+        checks.due("get(1)", x.get(1), NONE);
         checks.due("synchronize", x.synchronize(), false);
         checks.due("wouldHave when down", x.wouldHave(), 3);
         checks.due("isUp when down", x.isUp(), false);

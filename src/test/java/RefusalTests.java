@@ -1,13 +1,12 @@
 /** Wrong inputs and wrong states: which exception each call throws, and that it changes nothing. */
-final class RefusalTests {
-    private static final int[] BAD_KEYS = {-1, 64, Integer.MIN_VALUE, Integer.MAX_VALUE};
-
-    private final Checks checks;
+final class RefusalTests extends StoreTests {
+    private static final int[] BAD_KEYS = {-1, 64, MIN, MAX};
 
     RefusalTests(Checks checks) {
-        this.checks = checks;
+        super(checks);
     }
 
+    @Override
     void run() {
         checks.test("2 to 7, 10, 11, 19: arguments out of range when up", () -> argumentsRefused(prepared()));
         checks.test("arguments out of range when down come first", () -> argumentsRefused(down()));
@@ -36,65 +35,57 @@ final class RefusalTests {
         boolean up = x.isUp();
         int head = x.head();
         for (int key : BAD_KEYS) {
-            refused("put(" + key + ", 1)", () -> x.put(key, 1));
-            refused("delete(" + key + ")", () -> x.delete(key));
-            refused("get(" + key + ")", () -> x.get(key));
-            refused("next(" + key + ")", () -> x.next(key));
-            refused("positionOf(" + key + ")", () -> x.positionOf(key));
-            refused("sum(" + key + ", 5)", () -> x.sum(key, 5));
-            refused("sum(5, " + key + ")", () -> x.sum(5, key));
-            refused("fetches(" + key + ", 5)", () -> x.fetches(key, 5));
-            refused("fetches(5, " + key + ")", () -> x.fetches(5, key));
+            refusedArgument("put(" + key + ", 1)", () -> x.put(key, 1));
+            refusedArgument("delete(" + key + ")", () -> x.delete(key));
+            refusedArgument("get(" + key + ")", () -> x.get(key));
+            refusedArgument("next(" + key + ")", () -> x.next(key));
+            refusedArgument("positionOf(" + key + ")", () -> x.positionOf(key));
+            refusedArgument("sum(" + key + ", 5)", () -> x.sum(key, 5));
+            refusedArgument("sum(5, " + key + ")", () -> x.sum(5, key));
+            refusedArgument("fetches(" + key + ", 5)", () -> x.fetches(key, 5));
+            refusedArgument("fetches(5, " + key + ")", () -> x.fetches(5, key));
         }
-        refused("put(1, -1)", () -> x.put(1, -1));
-        refused("put(1, 10000)", () -> x.put(1, 10000));
-        refused("put(1, MIN)", () -> x.put(1, Integer.MIN_VALUE));
-        refused("put(1, MAX)", () -> x.put(1, Integer.MAX_VALUE));
-        refused("sum(6, 5)", () -> x.sum(6, 5));
-        refused("fetches(63, 0)", () -> x.fetches(63, 0));
-        refused("collect(0)", () -> x.collect(0));
-        refused("collect(97)", () -> x.collect(97));
-        refused("collect(-1)", () -> x.collect(-1));
-        refused("failAfter(-2)", () -> x.failAfter(-2));
-        refused("failAfter(1001)", () -> x.failAfter(1001));
+        refusedArgument("put(1, -1)", () -> x.put(1, -1));
+        refusedArgument("put(1, 10000)", () -> x.put(1, 10000));
+        refusedArgument("put(1, MIN)", () -> x.put(1, MIN));
+        refusedArgument("put(1, MAX)", () -> x.put(1, MAX));
+        refusedArgument("sum(6, 5)", () -> x.sum(6, 5));
+        refusedArgument("fetches(63, 0)", () -> x.fetches(63, 0));
+        refusedArgument("collect(0)", () -> x.collect(0));
+        refusedArgument("collect(97)", () -> x.collect(97));
+        refusedArgument("collect(-1)", () -> x.collect(-1));
+        refusedArgument("failAfter(-2)", () -> x.failAfter(-2));
+        refusedArgument("failAfter(1001)", () -> x.failAfter(1001));
         checks.due("isUp", x.isUp(), up);
         checks.due("head", x.head(), head);
         checks.due("tail", x.tail(), 0);
         checks.due("written", x.written(), 2);
     }
 
-    private void refused(String call, Checks.Call body) {
-        checks.throwsDue(call, Checks.ARGUMENT, body);
-    }
-
     private void downRefused() {
         Keysapart x = down();
-        stateRefused("put", () -> x.put(0, 0));
-        stateRefused("delete", () -> x.delete(1));
-        stateRefused("get", () -> x.get(1));
-        stateRefused("next", () -> x.next(0));
-        stateRefused("sum", () -> x.sum(0, 63));
-        stateRefused("fetches", () -> x.fetches(0, 63));
-        stateRefused("synchronize", x::synchronize);
-        stateRefused("checkpoint", x::checkpoint);
-        stateRefused("collect", () -> x.collect(1));
-        stateRefused("crash", x::crash);
-        stateRefused("positionOf", () -> x.positionOf(1));
-        stateRefused("live", x::live);
+        refusedState("put", () -> x.put(0, 0));
+        refusedState("delete", () -> x.delete(1));
+        refusedState("get", () -> x.get(1));
+        refusedState("next", () -> x.next(0));
+        refusedState("sum", () -> x.sum(0, 63));
+        refusedState("fetches", () -> x.fetches(0, 63));
+        refusedState("synchronize", x::synchronize);
+        refusedState("checkpoint", x::checkpoint);
+        refusedState("collect", () -> x.collect(1));
+        refusedState("crash", x::crash);
+        refusedState("positionOf", () -> x.positionOf(1));
+        refusedState("live", x::live);
         checks.due("head", x.head(), 2);
         checks.due("start", x.start(), 2);
         checks.due("sum", x.sum(0, 63), 30);
     }
 
-    private void stateRefused(String call, Checks.Call body) {
-        checks.throwsDue(call, Checks.STATE, body);
-    }
-
     private void upRefused() {
         Keysapart x = prepared();
-        stateRefused("start", x::start);
-        stateRefused("delete(0)", () -> x.delete(0));
-        stateRefused("collect(4)", () -> x.collect(4));
+        refusedState("start", x::start);
+        refusedState("delete(0)", () -> x.delete(0));
+        refusedState("collect(4)", () -> x.collect(4));
         checks.due("isUp", x.isUp(), true);
         checks.due("head", x.head(), 3);
         checks.due("written", x.written(), 2);
@@ -111,7 +102,7 @@ final class RefusalTests {
         checks.due("written", x.written(), 2);
         checks.due("checkpointAt", x.checkpointAt(), 2);
         checks.due("segments", x.segments(), 1);
-        checks.due("toFree", x.toFree(), Keysapart.NONE);
+        checks.due("toFree", x.toFree(), NONE);
         checks.due("wouldHave", x.wouldHave(), 2);
     }
 
