@@ -6,6 +6,7 @@ public final class AllTests {
     public static void main(String[] args) {
         Checks checks = new Checks();
         new FaceTests(checks).run();
+        new ReadmeTests(checks).run();
         new PromiseTests(checks).run();
         new RefusalTests(checks).run();
         new KeysEdgeTests(checks).run();
